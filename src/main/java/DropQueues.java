@@ -439,7 +439,7 @@ public final class DropQueues {
             return net.takeItem(letters[first], numbers[0], numbers[1], numbers[2]);
         }
 
-        private static int numbersOf(char kind) {
+        private static int numbersOf(int kind) {
             switch (kind) {
                 case 'n':
                 case 'g':
@@ -557,7 +557,7 @@ public final class DropQueues {
         }
 
         /** Answers whether the ITEM is so; else nothing is taken. */
-        boolean takeItem(char kind, int u, int v, int w) {
+        boolean takeItem(int kind, int u, int v, int w) {
             if ((kind == 'n') != (nodes == 0)) {
                 return false;
             }

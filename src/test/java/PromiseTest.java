@@ -26,6 +26,7 @@ public final class PromiseTest {
         promise11Long();
         promise11Lost();
         promise12Undo();
+        promise12Packets();
         promise13Queue();
         promise14Link();
         promise15Drop();
@@ -36,6 +37,7 @@ public final class PromiseTest {
         promise20Worst();
         promise21Drawn();
         promise22Count();
+        allLimits();
         badAheadOfAll();
         CHECKS.end("PromiseTest");
     }
@@ -495,6 +497,27 @@ public final class PromiseTest {
         due("what was refused is no change", x.undo(), NO);
     }
 
+    /** What a SLOT takes from a QUEUE far back in the store comes back in its order. */
+    private static void promise12Packets() {
+        DropQueues x = laid("n6;g0;l5,4,1;l4,0,1;f5,0,1;");
+        x.put(4, 0, 3);
+        x.slot(2);
+        x.put(5, 0, 20);
+        due("the oldest at NODE 5", x.queue(5, 0, 1), 1);
+        int greatest = x.goal(0, 3);
+        due("the greatest DELAY", greatest, 2);
+        x.slot(40);
+        CHECKS.holds("others leave", x.queue(5, 0, 1) > 1);
+        CHECKS.holds("a greater DELAY", x.goal(0, 3) > greatest);
+        due("undo()", x.undo(), 3);
+        due("the oldest again", x.queue(5, 0, 1), 1);
+        due("the greatest DELAY again", x.goal(0, 3), greatest);
+        x.put(5, 0, 1);
+        due("all of them", x.queue(5, 0, 0), 23);
+        x.tell(0, 1);
+        due("the youngest", x.queue(5, 0, 1), 2);
+    }
+
     private static void promise13Queue() {
         DropQueues x = laid("n5;g2;g4;l0,1,1;l1,2,1;l2,4,1;l0,2,1;b2;f0,0,3;");
         due("queue(0, 0, 0)", x.queue(0, 0, 0), 0);
@@ -759,6 +782,40 @@ public final class PromiseTest {
         counts(x, "behind two SLOTS", 4, 2, 3, 1, 1, 4, 2, 22 + 40 + 40 + 2, 18, 0, 22 * 22 + 3200 + 4, 4, 48);
         due("count(13)", x.count(13), BAD);
         due("count(-1)", x.count(-1), BAD);
+    }
+
+    /** As many NODES, GOALS, LINKS and pairs as there can be. */
+    private static void allLimits() {
+        StringBuilder text = new StringBuilder("n6;g3;g4;g5;");
+        for (int l = 0; l < 10; l++) {
+            text.append("l").append(l % 3).append(',').append(3 + l % 3).append(",9;");
+        }
+        DropQueues x = laid(text + "f0,0,9;f1,1,9;f2,2,9;b9;o1;");
+        for (int a = 0; a < 10; a++) {
+            for (int b = a + 1; b < 10; b++) {
+                x.clash(a, b, 1);
+            }
+        }
+        for (int i = 0; i < 3; i++) {
+            due("put(" + i + ", " + i + ", 40)", x.put(i, i, 40), 40);
+        }
+        due("all pairs", x.count(3), 45);
+        due("link(9, 6)", x.link(9, 6), 511);
+        due("each weighs as much", x.link(9, 4), 9 * 49);
+        due("goes(0)", x.goes(0), 1);
+        due("worst(1)", x.worst(1), 1);
+        due("worst(2)", x.worst(2), 2 * 9 * 49);
+        due("without(9)", x.without(9), 120);
+        due("drawn(9999, 60, 1)", x.drawn(9999, 60, 1), 540);
+        due("slot(60)", x.slot(60), 540);
+        due("LOST: two QUEUES' FEEDS in each SLOT", x.count(9), 60 * 18);
+        for (int a = 0; a < 10; a++) {
+            for (int b = a + 1; b < 10; b++) {
+                x.clash(a, b, 0);
+            }
+        }
+        due("all go", x.goes(0), 1023);
+        due("ahead(1, 1): four, three and three LINKS", x.ahead(1, 1), 36 + 27 + 27);
     }
 
     private static void badAheadOfAll() {
