@@ -75,6 +75,8 @@ final class AheadBounds {
             "without(0) = 40");
         s.laid("n2;g1;l0,1,2;l0,1,1;x0,1;", "put(0, 0, 40) = 40", "without(0) = 20", "without(1) = 0");
         s.laid("n3;g2;l0,1,1;l1,2,1;b9;", "put(0, 0, 3) = 3", "without(1) = 3", "without(0) = 3", "queue(0, 0, 3) = 18");
+        s.laid("n4;g3;l0,3,9;l0,1,9;l1,2,9;l2,3,9;b9;", "put(0, 0, 5) = 5", "without(0) = 5", "put(0, 0, 4) = 9",
+            "without(0) = 9", "put(0, 0, 1) = 10", "without(0) = 1", "ahead(20, 0) = 0");
         s.laid("n2;g1;" + "l0,1,1;".repeat(9) + "l0,1,9;", "put(0, 0, 40) = 40", "without(9) = 0", "without(10) = BAD");
         s.laid("n2;g1;l0,1,9;", "put(0, 0, 40) = 40", "without(0) = 40", "goes(0) = 1", "slot(1) = 9");
     }

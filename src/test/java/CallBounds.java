@@ -99,10 +99,7 @@ final class CallBounds {
             "lay() = 6", "link(7, 0) = 0", "link(9, 0) = 0", "goal(2, 0) = 3", "queue(5, 0, 0) = 0", "wipe() = 82");
         Run less = Run.written("n6;g1;g2;g3;" + "l0,1,1;".repeat(10));
         less.ask("lay()");
-        less.ask("wipe()");
-        for (char letter : "n2;g1;".toCharArray()) {
-            less.ask("write(" + (int) letter + ")");
-        }
+        less.rewrite("n2;g1;");
         s.go(less, "lay() = 2", "link(0, 0) = BAD", "goal(1, 0) = BAD", "queue(2, 0, 0) = BAD", "queue(0, 0, 0) = 0");
     }
 
@@ -196,6 +193,7 @@ final class CallBounds {
             "count(10) = 0", "count(11) = 0", "goal(0, 1) = 0", "goal(0, 2) = 0", "goal(0, 3) = NONE", "goal(0, 4) = 0",
             "queue(0, 0, 0) = 0", "queue(0, 0, 1) = NONE", "undo() = NO");
         s.alike(s.laid("n3;g2;l0,1,9;l1,2,1;f0,0,9;"), run.againWithoutLast(1));
+        layOverOther();
         for (String text : new String[] {"", "n4;", "n4;g0", "n4;g4;", "g0;", "n4;g0;;"}) {
             Run refused = Run.written(text);
             for (String call : new String[] {"put(0, 0, 9)", "slot(9)", "room(0, 1)", "clash(0, 1, 1)", "tell(0, 1)"}) {
@@ -203,6 +201,29 @@ final class CallBounds {
             }
             s.due(refused, "lay()", DropQueues.NO);
         }
+    }
+
+    /** Nothing of what was LAID, read or done ahead of it stays. */
+    private void layOverOther() {
+        String other = "n6;g5;g4;g3;" + "l0,5,9;".repeat(10) + "x0,1;x8,9;b9;o1;f0,0,9;f1,1,9;f2,2,9;";
+        String[] texts = {"n2;g1;", "n2;g0;l1,0,1;", "n3;g2;l0,1,2;l1,2,1;", NET, "n6;g0;g1;g2;"};
+        for (String text : texts) {
+            Run run = Run.written(other);
+            run.ask("lay()");
+            run.ask("put(0, 0, 40)");
+            run.ask("slot(20)");
+            run.ask("ahead(9, 0)");
+            run.rewrite(text);
+            s.due(run, "lay()", text.charAt(1) - '0');
+            s.alike(s.laid(text), run);
+        }
+        Run read = Run.written(other);
+        s.due(read, "fault()", DropQueues.NONE);
+        read.rewrite(NET);
+        s.due(read, "lay()", 4);
+        s.alike(s.laid(NET), read);
+        Run slow = s.laid("n2;g1;l0,1,1;", "put(0, 0, 9) = 9", "slot(9) = 9", "goal(0, 3) = 9");
+        s.go(slow, "lay() = 2", "goal(0, 3) = NONE", "put(0, 0, 1) = 1", "slot(1) = 1", "goal(0, 3) = 1", "goal(0, 2) = 1");
     }
 
     private void feed() {

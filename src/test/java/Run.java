@@ -11,10 +11,19 @@ final class Run {
 
     static Run written(String text) {
         Run run = new Run();
-        for (char letter : text.toCharArray()) {
-            run.ask("write(" + (int) letter + ")");
-        }
+        run.write(text);
         return run;
+    }
+
+    void write(String text) {
+        for (char letter : text.toCharArray()) {
+            ask("write(" + (int) letter + ")");
+        }
+    }
+
+    void rewrite(String text) {
+        ask("wipe()");
+        write(text);
     }
 
     Run again() {

@@ -34,7 +34,8 @@ final class TextBounds {
         String text = "n2;g1;" + "b9;".repeat(64) + "b1";
         s.written(text.substring(0, 198), "write(" + (int) ';' + ") = 199", "write(" + (int) ';' + ") = 200",
             "write(" + (int) ';' + ") = FULL", "count(12) = 200", "wipe() = 200", "count(12) = 0");
-        s.written("n02;g01;" + "b9;".repeat(64), "count(12) = 200", "fault() = NONE", "lay() = 2", "count(5) = 9");
+        s.written("n02;g01;" + "b9;".repeat(64), "count(12) = 200", "fault() = NONE", "write(120) = FULL",
+            "fault() = NONE", "lay() = 2", "count(5) = 9");
         s.written(text, "count(12) = 200", "write(59) = FULL", "fault() = 198", "lay() = NO");
         s.written("n2;g1;" + "b9;".repeat(64) + " ", "count(12) = 199", "fault() = 198", "write(59) = 200", "fault() = 198",
             "write(59) = FULL", "fault() = 198");
