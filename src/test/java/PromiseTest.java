@@ -39,6 +39,7 @@ public final class PromiseTest {
         promise22Count();
         allLimits();
         badAheadOfAll();
+        exampleOfReadme();
         CHECKS.end("PromiseTest");
     }
 
@@ -839,5 +840,18 @@ public final class PromiseTest {
             due("count(far)", x.count(far), BAD);
             counts(x, "nothing changed by " + far, 5, 2, 7, 3, 0, 1, 0, 0, 0, 0, 0, 0, 0);
         }
+    }
+
+    /** The example by which README.md tells how to use the class. */
+    private static void exampleOfReadme() {
+        DropQueues x = written("n3;g2;l0,1,2;l1,2,1;");
+        due("README: fault()", x.fault(), NONE);
+        due("README: lay()", x.lay(), 3);
+        due("README: put(0, 0, 5)", x.put(0, 0, 5), 5);
+        due("README: goes(0)", x.goes(0), 1);
+        due("README: ahead(7, 0)", x.ahead(7, 0), 0);
+        due("README: slot(7)", x.slot(7), 5);
+        due("README: goal(0, 2)", x.goal(0, 2), 21);
+        due("README: undo()", x.undo(), 1);
     }
 }
